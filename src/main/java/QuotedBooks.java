@@ -387,13 +387,10 @@ public final class QuotedBooks {
         if (!shelf.isBit(x) || !shelf.isBit(y) || x == y || !shelf.ofOneWork(x, y)) {
             return NONE;
         }
-        int k = shelf.bitWork(x);
-        if (!ordering.solve(k)) {
+        if (!ordering.solve(shelf.bitWork(x))) {
             return LACKING;
         }
-        int most = ordering.points();
-        boolean otherwise = ordering.solveWith(k, y, x) && ordering.points() == most;
-        return otherwise ? 0 : 1;
+        return ordering.isAheadInAll(x, y) ? 1 : 0;
     }
 
     public long truth(long bits, int books, int what) {
@@ -501,8 +498,7 @@ public final class QuotedBooks {
         if (!shelf.isWork(k) || !ordering.solve(k)) {
             return NOT_TOLD;
         }
-        int with = ordering.points();
-        return ordering.solveWithout(k, i) ? with - ordering.points() : with;
+        return ordering.points() - ordering.pointsWithout(i);
     }
 
     public int check(int i, int n) {
@@ -591,7 +587,7 @@ public final class QuotedBooks {
         }
 
         int byteAt(int place) {
-            return place < size ? at(bytes, place) : NONE;
+            return place >= 0 && place < size && place < ROOM ? bytes[place] : NONE;
         }
 
         int numberAt(int place) {
@@ -1586,9 +1582,12 @@ public final class QuotedBooks {
         private final int[] most = new int[SETS * MOST_LAID];
         private final int[] ways = new int[SETS * MOST_LAID];
         private final int[] laid = new int[MOST_LAID];
+        private final int[] bestEnds = new int[SETS];
+        private final int[] behindInSome = new int[MOST_LAID];
         private int points;
         private int rows;
         private int solved = NONE;
+        private boolean compared;
 
         Ordering(Shelf shelf, Text text) {
             this.shelf = shelf;
@@ -1635,50 +1634,33 @@ public final class QuotedBooks {
             return true;
         }
 
+        /** Whether there is an ORDER; it is kept till something is told that may change it. */
         boolean solve(int k) {
             if (solved != k) {
-                gather(k, NONE);
-                search();
                 solved = k;
+                compared = false;
+                gather(k);
+                search();
             }
             return rows > 0;
         }
 
-        boolean solveWith(int k, int x, int y) {
-            forget();
-            gather(k, NONE);
-            demand(x, y);
-            search();
-            return rows > 0;
-        }
-
-        boolean solveWithout(int k, int i) {
-            forget();
-            gather(k, i);
-            search();
-            return rows > 0;
-        }
-
         /** A size above the most that are laid says only that there are too many. */
-        private void gather(int k, int without) {
+        private void gather(int k) {
             size = 0;
             for (int i = 0; i < shelf.bits(); i++) {
-                if (shelf.bitWork(i) == k && i != without) {
+                if (shelf.bitWork(i) == k) {
                     put(members, size, i);
                     put(before, size, 0);
                     size++;
                 }
             }
             for (int p = 0; p < pairs && p < MOST_PAIRS; p++) {
-                demand(fore[p], hind[p]);
-            }
-        }
-
-        private void demand(int x, int y) {
-            int first = placeOf(x);
-            int second = placeOf(y);
-            if (first != NONE && second != NONE) {
-                put(before, second, at(before, second) | 1 << first);
+                int first = placeOf(fore[p]);
+                int second = placeOf(hind[p]);
+                if (first != NONE && second != NONE) {
+                    put(before, second, at(before, second) | 1 << first);
+                }
             }
         }
 
@@ -1781,6 +1763,55 @@ public final class QuotedBooks {
                 set |= 1 << chosen;
                 last = chosen;
                 rest = at(most, set * MOST_LAID + last);
+            }
+        }
+
+        /** A BIT that lies in the set from the start, with nothing behind it, has no say any more. */
+        int pointsWithout(int i) {
+            int place = placeOf(i);
+            if (place == NONE || size == 1) {
+                return 0;
+            }
+            int best = NOT_TOLD;
+            for (int p = 0; p < size; p++) {
+                best = Math.max(best, behind(1 << place, NONE, p));
+            }
+            return best;
+        }
+
+        boolean isAheadInAll(int x, int y) {
+            if (!compared) {
+                compareAll();
+                compared = true;
+            }
+            return (at(behindInSome, placeOf(y)) >>> placeOf(x) & 1) == 0;
+        }
+
+        /** Goes through the sets that best rows begin with: what is not in one comes behind what is. */
+        private void compareAll() {
+            for (int p = 0; p < MOST_LAID; p++) {
+                behindInSome[p] = 0;
+            }
+            for (int set = 0; set < SETS; set++) {
+                bestEnds[set] = 0;
+            }
+            markNext(0, NONE, points);
+            for (int set = 1; set < 1 << size && set < SETS; set++) {
+                for (int last = 0; last < size; last++) {
+                    if ((bestEnds[set] >>> last & 1) == 1) {
+                        put(behindInSome, last, at(behindInSome, last) | ~set);
+                        markNext(set, last, at(most, set * MOST_LAID + last));
+                    }
+                }
+            }
+        }
+
+        private void markNext(int set, int last, int rest) {
+            for (int p = 0; p < size; p++) {
+                if (behind(set, last, p) == rest) {
+                    int next = set | 1 << p;
+                    put(bestEnds, next, at(bestEnds, next) | 1 << p);
+                }
             }
         }
     }
