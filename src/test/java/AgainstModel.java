@@ -1,24 +1,15 @@
-import java.lang.reflect.Method;
-import java.util.ArrayList;
-import java.util.HashMap;
 import java.util.List;
-import java.util.Map;
 import java.util.Random;
 
 /** Long runs of calls by fixed seeds, each answer held against the Model, which is slow and plain. */
 public final class AgainstModel {
     private static final int CALLS = 512;
     private static final String LETTERS = "wilbxykmcstznp";
-    private static final Map<String, Method> OURS = methodsOf(QuotedBooks.class);
-    private static final Map<String, Method> THEIRS = methodsOf(Model.class);
 
     private final Random random;
     private final int flavour;
-    private QuotedBooks ours = new QuotedBooks();
-    private Model model = new Model();
-    private final List<String> told = new ArrayList<>();
-    private int calls;
-    private boolean failed;
+    private final Twin twin = new Twin();
+    private final Model model = twin.model;
 
     private AgainstModel(long seed) {
         random = new Random(seed);
@@ -32,61 +23,18 @@ public final class AgainstModel {
         for (int seed = first; seed < first + runs && wrong < 5; seed++) {
             AgainstModel run = new AgainstModel(seed);
             run.go();
-            if (run.failed) {
+            if (run.twin.failed()) {
                 wrong++;
                 System.out.println("seed " + seed + ":");
-                run.told.forEach(line -> System.out.println("  " + line));
+                run.twin.print();
             }
         }
         System.out.println(runs + " runs against the model, " + wrong + " wrong");
         System.exit(wrong == 0 ? 0 : 1);
     }
 
-    private static Map<String, Method> methodsOf(Class<?> type) {
-        Map<String, Method> all = new HashMap<>();
-        for (Method m : type.getDeclaredMethods()) {
-            if (!java.lang.reflect.Modifier.isPrivate(m.getModifiers()) && !m.isSynthetic()) all.put(m.getName(), m);
-        }
-        return all;
-    }
-
-    private static long answer(Method m, Object on, long[] args) {
-        Object[] boxed = new Object[args.length];
-        for (int i = 0; i < args.length; i++) {
-            boxed[i] = m.getParameterTypes()[i] == long.class ? (Object) args[i] : (Object) (int) args[i];
-        }
-        try {
-            Object a = m.invoke(on, boxed);
-            return a instanceof Boolean b ? (b ? 1 : 0) : ((Number) a).longValue();
-        } catch (ReflectiveOperationException e) {
-            throw new IllegalStateException(m.getName() + " threw", e);
-        }
-    }
-
     private long call(String name, long... args) {
-        if (failed || calls >= CALLS) return -1;
-        calls++;
-        StringBuilder line = new StringBuilder(name).append("(");
-        for (int i = 0; i < args.length; i++) line.append(i == 0 ? "" : ", ").append(args[i]);
-        long want = answer(THEIRS.get(name), model, args);
-        long got;
-        try {
-            got = answer(OURS.get(name), ours, args);
-        } catch (IllegalStateException e) {
-            told.add(line + ") threw " + e.getCause().getCause());
-            failed = true;
-            return -1;
-        }
-        told.add(line + ") = " + got);
-        if (got != want) {
-            told.add("   due is " + want);
-            failed = true;
-        }
-        return want;
-    }
-
-    private int upTo(int most) {
-        return random.nextInt(most + 1);
+        return twin.calls() < CALLS ? twin.call(name, args) : -1;
     }
 
     private boolean oneIn(int n) {
@@ -359,7 +307,7 @@ public final class AgainstModel {
 
     private void go() {
         if (!oneIn(10)) begin();
-        while (calls < CALLS && !failed) {
+        while (twin.calls() < CALLS && !twin.failed()) {
             int turn = random.nextInt(100);
             if (turn < 6) tellLeft();
             else if (turn < 14 + 6 * (flavour & 1)) tellBit();
@@ -370,9 +318,6 @@ public final class AgainstModel {
             else if (turn < 78) askCloseness();
             else askRest();
         }
-        for (int what = -1; what < 30 && !failed; what++) {
-            calls = 0;
-            call("count", what);
-        }
+        twin.countAll();
     }
 }
