@@ -17,7 +17,7 @@ public final class AgainstModel {
     }
 
     public static void main(String[] args) {
-        int runs = args.length > 0 ? Integer.parseInt(args[0]) : 240;
+        int runs = args.length > 0 ? Integer.parseInt(args[0]) : 500;
         int first = args.length > 1 ? Integer.parseInt(args[1]) : 1;
         int wrong = 0;
         for (int seed = first; seed < first + runs && wrong < 5; seed++) {

@@ -472,7 +472,25 @@ public final class Promises {
         bookBy(d, 1, 7, "nx-" + (luck - 4) + "(x=" + luck + ")", 6);
         bookBy(d, 1, 7, "n1+c+s+t+z+n+p(0=0)", 3);
 
+        // A seed whose first LUCK is 0.
+        int lucky = 0;
+        while ((25173 * lucky + 13849) % 65536 % 1000 != 0) lucky++;
+        String[] texts = {"d0-5(0=0)", "d0(0=0)", "d1(0=0)", "c0-5(0=0)", "c1(0=0)", "d1(0=1)"};
+        int[] want = {words[0], words[0], -2, words[0], words[0] + 1, words[0]};
+        for (int t = 0; t < texts.length; t++) {
+            d.way(0, texts[t]);
+            d.x.seed(lucky);
+            int i = d.x.quote(0, 0, 0, 0, 0);
+            due("LUCK 0 by " + texts[t], i < 0 ? i : d.x.bitIs(i, 10), want[t]);
+        }
+
         Desk e = Desk.with(0, 1);
+        e.x.work(0, 40);
+        e.bytes(7, 35).x.left(0, 1);
+        e.way(0, "n0-10(0=0)");
+        e.x.quote(0, 0, 0, 0, 0);
+        due("nine less at most", e.x.bitIs(0, 2), 26);
+        e = Desk.with(0, 1);
         e.x.work(0, 40);
         e.bytes(7, 35).x.left(0, 1);
         e.way(0, "n9(0=0)");
@@ -557,6 +575,11 @@ public final class Promises {
         due("what -1", d.x.near(0, 0, -1), NONE);
         d.left(1, 1, 2, 4);
         due("LEFT by now", d.x.near(0, 1, 0), 0);
+        // Three WORDS dropped out of seven are as few changes as there are: the longest counts.
+        d = Desk.with(1, 1);
+        d.left(0, 1, 9, 2, 9, 3, 9, 4);
+        d.bit(0, -1, 0, 0, 1, 2, 3, 4);
+        nearIs(d, 0, 3, 0, 6, 250);
     }
 
     private static void nearIs(Desk d, int i, int far, int first, int last, int thousandths) {
@@ -629,9 +652,22 @@ public final class Promises {
         int[] least = {1, 3, 1};
         due("three of five", d.x.stood(5, 6, -1), 3);
         for (int p = 0; p < 3; p++) due("the least row", d.x.stood(5, 6, p), least[p]);
+        stoodIs(d, new int[] {1, 2, 1, 3}, new int[] {1, 3, 2}, 1, 2);
+        stoodIs(d, new int[] {1, 2, 3}, new int[] {1, 2, 1, 3}, 1, 2, 3);
+        stoodIs(d, new int[] {1, 2, 1, 3}, new int[] {1, 2, 3}, 1, 2, 3);
+        stoodIs(d, new int[] {7, 1, 7, 2, 7}, new int[] {2, 7, 1, 7, 7}, 7, 1, 7, 7);
+        stoodIs(d, new int[] {1, 2, 3, 4, 5, 6, 7, 8}, new int[] {1, 2, 3, 4, 5, 6, 7, 8}, 1, 2, 3, 4, 5, 6, 7, 8);
+        stoodIs(d, new int[] {8, 7, 6, 5, 4, 3, 2, 1}, new int[] {1, 2, 3, 4, 5, 6, 7, 8}, 1);
         due("what -2", d.x.stood(0, 1, -2), NONE);
-        due("no such BIT", d.x.stood(0, 7, -1), NONE);
+        due("no such BIT", d.x.stood(0, d.x.count(3), -1), NONE);
         due("no such BIT", d.x.stood(-1, 0, -1), NONE);
+    }
+
+    private static void stoodIs(Desk d, int[] one, int[] other, int... want) {
+        int x = d.bit(0, -1, 0, 0, one);
+        int y = d.bit(0, -1, 0, 0, other);
+        due("how many of " + x, d.x.stood(x, y, -1), want.length);
+        for (int p = 0; p < want.length; p++) due("place " + p + " of " + x, d.x.stood(x, y, p), want[p]);
     }
 
     /** WORK 0: WORDS 10, 20 .. 60; WRITERS of the years 100, 200 .. */
@@ -1229,6 +1265,9 @@ public final class Promises {
         due("the last", d.numbers(1, 2, 62).x.check(0, 3), 2);
         due("above a byte", d.numbers(1, 256 + 2, 63).x.check(0, 3), 1);
         due("below 0", d.numbers(1, -2, 63).x.check(0, 3), 1);
+        for (int shift = 8; shift < 32; shift++) {
+            due("with bit " + shift, d.numbers(1, 2, 63 | 1 << shift).x.check(0, 3), 2);
+        }
         due("some are lacking", d.numbers(1, 2).x.check(0, 2), 2);
         due("all are lacking", d.numbers(1).x.check(0, 0), 0);
         due("the tape is empty", d.x.count(5), 0);
