@@ -1148,8 +1148,8 @@ public final class QuotedBooks {
 
         private void readNumber() {
             int number = 0;
-            for (int digits = 0; within(next(), '0', '9'); digits++) {
-                if (digits >= MOST_DIGITS) {
+            for (int digits = 0; digits <= MOST_DIGITS && within(next(), '0', '9'); digits++) {
+                if (digits == MOST_DIGITS) {
                     blame(TOO_LONG);
                     return;
                 }

@@ -11,13 +11,16 @@ public final class Room {
 
     public static void main(String[] args) {
         askAll(filled());
+        made();
         long start = made();
+        long asking = made() - start;
+        start = made();
         new QuotedBooks();
         long object = made() - start;
         Desk d = filled();
         start = made();
         for (int turn = 0; turn < 20; turn++) askAll(d);
-        long calls = made() - start;
+        long calls = made() - start - asking;
         System.out.println("an object takes " + object + " bytes, its calls " + calls);
         System.exit(object > 200000 || calls > 0 ? 1 : 0);
     }

@@ -117,49 +117,35 @@ final class Model {
         return bits.size() - 1;
     }
 
-    int way(int writer, int n) {
+    private interface Keep { void text(ModelText text); }
+
+    private int read(int n, boolean known, String heads, Keep keep) {
         int[] t = take(n);
-        if (t == null || !isWriter(writer) || n < 1 || n > 160) return -1;
+        if (t == null || !known || n < 1 || n > 160) return -1;
         try {
-            ways[writer] = new ModelText(t, "dcn");
-            return ways[writer].clauses();
+            ModelText text = new ModelText(t, heads);
+            keep.text(text);
+            return text.clauses();
         } catch (ModelText.Fault f) {
             return f.answer;
         }
+    }
+
+    int way(int writer, int n) {
+        return read(n, isWriter(writer), "dcn", text -> ways[writer] = text);
     }
 
     int plan(int n) {
-        int[] t = take(n);
-        if (t == null || n < 1 || n > 160) return -1;
-        try {
-            planText = new ModelText(t, "p");
-            bests.clear();
-            return planText.clauses();
-        } catch (ModelText.Fault f) {
-            return f.answer;
-        }
+        bests.clear();
+        return read(n, true, "p", text -> planText = text);
     }
 
     int habit(int n) {
-        int[] t = take(n);
-        if (t == null || n < 1 || n > 160) return -1;
-        try {
-            habitText = new ModelText(t, "h");
-            return habitText.clauses();
-        } catch (ModelText.Fault f) {
-            return f.answer;
-        }
+        return read(n, true, "h", text -> habitText = text);
     }
 
     int table(int n) {
-        int[] t = take(n);
-        if (t == null || n < 1 || n > 160) return -1;
-        try {
-            tableText = new ModelText(t, "g");
-            return tableText.clauses();
-        } catch (ModelText.Fault f) {
-            return f.answer;
-        }
+        return read(n, true, "g", text -> tableText = text);
     }
 
     private static int reckon(ModelText text, char head, int least, int most, String letters, int... values) {
