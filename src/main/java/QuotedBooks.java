@@ -82,23 +82,18 @@ public final class QuotedBooks {
     }
 
     public boolean left(int k, int n) {
-        if (!tape.holds(n, 2)) {
+        if (!shelf.isWork(k) || shelf.isLeft(k) || !within(n, 1, WORK_WORDS) || !tape.holds(n, 2)) {
             return false;
         }
-        boolean done = shelf.isWork(k) && !shelf.isLeft(k) && within(n, 1, WORK_WORDS)
-                && shelf.tellWords(k, tape, n);
+        boolean wordsAreSo = shelf.tellWords(k, tape, n);
         tape.clear();
-        return done;
+        return wordsAreSo;
     }
 
     public int bit(int writer, int work, int book, int subject, int n) {
-        if (!tape.holds(n, 1)) {
-            return NONE;
-        }
         boolean known = shelf.isWriter(writer) && (work == NONE || shelf.isWork(work))
                 && within(book, 0, MOST_BOOKS) && within(subject, 0, 9) && within(n, 1, BIT_WORDS);
-        if (!known || shelf.bits() >= MOST_BITS) {
-            tape.clear();
+        if (!known || shelf.bits() >= MOST_BITS || !tape.holds(n, 1)) {
             return NONE;
         }
         boolean wordsAreSo = takeWords(n);
@@ -148,13 +143,10 @@ public final class QuotedBooks {
     }
 
     private int readText(int n, String heads, Text goal) {
-        if (!tape.holds(n, 1)) {
+        if (goal == null || !within(n, 1, Text.MOST_BYTES) || !tape.holds(n, 1)) {
             return NONE;
         }
-        int answer = NONE;
-        if (goal != null && within(n, 1, Text.MOST_BYTES)) {
-            answer = reader.read(n, heads, goal);
-        }
+        int answer = reader.read(n, heads, goal);
         tape.clear();
         return answer;
     }
@@ -502,10 +494,10 @@ public final class QuotedBooks {
     }
 
     public int check(int i, int n) {
-        if (!tape.holds(n, 4)) {
+        if (!shelf.isBit(i) || !tape.holds(n, 4)) {
             return LACKING;
         }
-        int answer = shelf.isBit(i) ? firstNotSo(i, n) : LACKING;
+        int answer = firstNotSo(i, n);
         tape.clear();
         return answer;
     }
@@ -558,7 +550,7 @@ public final class QuotedBooks {
         }
     }
 
-    /** The bytes that were fed and not yet used. */
+    /** The bytes that were fed. Only a call that reads of them empties it: one refused ahead of that doesn't. */
     private static final class Tape {
         private static final int ROOM = 200;
 

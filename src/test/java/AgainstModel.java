@@ -52,7 +52,9 @@ public final class AgainstModel {
         return least + random.nextInt(most - least + 1);
     }
 
+    /** Refused calls leave the tape: mostly emptied ahead of the next, as all would run into it else. */
     private void feed(byte[] bytes) {
+        if (!model.tape.isEmpty() && !oneIn(8)) call("plan", 1);
         for (int start = 0; start < bytes.length; start += 20) {
             long[] five = new long[5];
             for (int i = 0; i < 20; i++) {
@@ -121,8 +123,7 @@ public final class AgainstModel {
     }
 
     private void numbers(int i) {
-        if (!model.isBit(i)) return;
-        List<Integer> words = model.bits.get(i).words();
+        List<Integer> words = model.isBit(i) ? model.bits.get(i).words() : List.of();
         int n = oneIn(2) ? words.size() : random.nextInt(10);
         byte[] bytes = new byte[4 * n];
         for (int p = 0; p < n; p++) {

@@ -162,6 +162,10 @@ public final class Promises {
         due("WORDS", d.x.count(20), 2);
         due("it is LEFT", d.bytes(5, 1).x.left(0, 1), false);
         due("WORDS still", d.x.count(20), 2);
+        due("it is LEFT: the tape stays", d.x.count(5), 20);
+        due("it is LEFT, and they are not so", d.x.left(0, 2), false);
+        due("the tape stays", d.x.count(5), 20);
+        d.empty();
         due("BOOK 3 of two", d.bytes(5, 1, 6, 3).x.left(1, 2), false);
         due("the tape is empty, as they are not so", d.x.count(5), 0);
         due("BOOK 0", d.bytes(5, 0).x.left(1, 1), false);
@@ -169,13 +173,19 @@ public final class Promises {
         due("WORD 64", d.bytes(64, 1).x.left(1, 1), false);
         due("a byte above 127", d.bytes(200, 1).x.left(1, 1), false);
         due("still lost", d.x.count(21), 0);
+        due("the tape is empty", d.x.count(5), 0);
         due("no such WORK", d.bytes(5, 1).x.left(2, 1), false);
-        due("WORK -1", d.bytes(5, 1).x.left(-1, 1), false);
-        due("n 0", d.bytes(5, 1).x.left(1, 0), false);
+        due("WORK -1", d.x.left(-1, 1), false);
+        due("no such WORK, and they are not so", d.x.left(2, 2), false);
+        due("n 0", d.x.left(1, 0), false);
+        due("the tape stays", d.x.count(5), 20);
+        d.empty();
         int[] long41 = new int[82];
         for (int p = 0; p < 82; p++) long41[p] = 1;
         due("n 41", d.bytes(long41).x.left(1, 41), false);
-        due("n 40", d.bytes(long41).x.left(1, 40), true);
+        due("the tape stays", d.x.count(5), 100);
+        due("n 40", d.x.left(1, 40), true);
+        due("the tape is empty", d.x.count(5), 0);
         due("forty WORDS", d.x.count(21), 40);
         Desk e = Desk.with(1, 1);
         e.bytes(9, 1, 63, 2, 0, 9).x.left(0, 3);
@@ -202,21 +212,28 @@ public final class Promises {
         due("WORD 64", d.bit(0, 0, 0, 0, 1, 64), -2);
         due("the tape is empty", d.x.count(5), 0);
         due("WORD 255", d.bit(0, 0, 0, 0, 255), -2);
-        due("WRITER 1", d.bit(1, 0, 0, 0, 1), NONE);
-        due("WRITER -1", d.bit(-1, 0, 0, 0, 1), NONE);
-        due("WORK 1", d.bit(0, 1, 0, 0, 1), NONE);
-        due("WORK -2", d.bit(0, -2, 0, 0, 1), NONE);
-        due("BOOK -1", d.bit(0, 0, -1, 0, 1), NONE);
-        due("BOOK 41", d.bit(0, 0, 41, 0, 1), NONE);
-        due("SUBJECT -1", d.bit(0, 0, 0, -1, 1), NONE);
-        due("SUBJECT 10", d.bit(0, 0, 0, 10, 1), NONE);
-        due("n 0", d.bytes(1).x.bit(0, 0, 0, 0, 0), NONE);
-        due("n 9", d.bit(0, 0, 0, 0, 1, 1, 1, 1, 1, 1, 1, 1, 1), NONE);
-        due("no such WRITER and no such WORD", d.bit(1, 0, 0, 0, 64), NONE);
+        due("the tape is empty", d.x.count(5), 0);
+        d.bytes(1, 2, 3, 4, 5, 6, 7, 8, 9);
+        due("WRITER 1", d.x.bit(1, 0, 0, 0, 1), NONE);
+        due("WRITER -1", d.x.bit(-1, 0, 0, 0, 1), NONE);
+        due("WORK 1", d.x.bit(0, 1, 0, 0, 1), NONE);
+        due("WORK -2", d.x.bit(0, -2, 0, 0, 1), NONE);
+        due("BOOK -1", d.x.bit(0, 0, -1, 0, 1), NONE);
+        due("BOOK 41", d.x.bit(0, 0, 41, 0, 1), NONE);
+        due("SUBJECT -1", d.x.bit(0, 0, 0, -1, 1), NONE);
+        due("SUBJECT 10", d.x.bit(0, 0, 0, 10, 1), NONE);
+        due("n 0", d.x.bit(0, 0, 0, 0, 0), NONE);
+        due("n 9", d.x.bit(0, 0, 0, 0, 9), NONE);
+        due("the tape stays", d.x.count(5), 20);
+        due("no such WRITER and no such WORD", d.empty().bit(1, 0, 0, 0, 64), NONE);
+        due("the tape stays", d.x.count(5), 20);
         due("BITS", d.x.count(3), 0);
+        d.empty();
         for (int i = 0; i < 40; i++) due("bit " + i, d.bit(0, 0, 0, 0, i), i);
         due("40 are there", d.bit(0, 0, 0, 0, 1), NONE);
-        due("40 are there, no such WORD", d.bit(0, 0, 0, 0, 64), NONE);
+        due("the tape stays", d.x.count(5), 20);
+        due("40 are there, no such WORD", d.empty().bit(0, 0, 0, 0, 64), NONE);
+        due("the tape stays", d.x.count(5), 20);
         due("BITS", d.x.count(3), 40);
     }
 
@@ -224,7 +241,11 @@ public final class Promises {
         promise = 9;
         Desk d = Desk.with(1, 2);
         due("no such WRITER", d.way(2, "d1(0=0)"), NONE);
-        due("WRITER -1", d.way(-1, "d1(0=0)"), NONE);
+        due("WRITER -1", d.x.way(-1, 7), NONE);
+        due("no such WRITER, and a FAULT", d.x.way(2, 6), NONE);
+        due("the tape stays", d.x.count(5), 20);
+        due("for one who is there", d.x.way(1, 7), 1);
+        d = Desk.with(1, 2);
         due("three heads", d.way(0, "d1(0=0);c2(0=0);n3(0=0)"), 3);
         due("CLAUSES", d.x.count(10), 3);
         due("CLAUSES of the other", d.x.count(11), 0);
@@ -243,9 +264,11 @@ public final class Promises {
         due("a FAULT", d.x.way(0, 1), -1000);
         due("the tape is empty after a FAULT", d.x.count(5), 0);
         due("n 0", d.bytes('n').x.way(0, 0), NONE);
+        due("the tape stays", d.x.count(5), 20);
         String long160 = "n" + "1+".repeat(76) + "11(0=0)";
-        due("160 bytes", d.way(0, long160), 1);
+        due("160 bytes", d.empty().way(0, long160), 1);
         due("161 bytes", d.way(0, "n1" + long160.substring(1)), NONE);
+        due("the tape stays", d.x.count(5), 180);
     }
 
     private static void faults() {
@@ -306,12 +329,16 @@ public final class Promises {
         due("the TEXT before stays", d.x.count(6), 2);
         d.bytes('p');
         due("it has not so many", d.x.plan(21), NONE);
-        due("the tape stays", d.x.count(5), 20);
+        due("n below 0", d.x.plan(-1), NONE);
         due("n 0", d.x.plan(0), NONE);
+        due("the tape stays", d.x.count(5), 20);
         due("HABIT and TABLE", d.x.count(7) + d.x.count(8), 0);
         String long160 = "p" + "1+".repeat(76) + "11(0=0)";
-        due("160 bytes", d.plan(long160), 1);
+        due("160 bytes", d.empty().plan(long160), 1);
         due("161 bytes", d.plan("p1" + long160.substring(1)), NONE);
+        due("the tape stays", d.x.count(5), 180);
+        due("a FAULT", d.x.plan(160), -1160);
+        due("the tape is empty after a FAULT", d.x.count(5), 0);
 
         promise = 27;
         Desk e = Desk.with(1, 2);
@@ -340,12 +367,16 @@ public final class Promises {
         due("the TEXT before stays", d.x.count(7), 3);
         d.bytes('h');
         due("it has not so many", d.x.habit(21), NONE);
-        due("the tape stays", d.x.count(5), 20);
+        due("n below 0", d.x.habit(-1), NONE);
         due("n 0", d.x.habit(0), NONE);
+        due("the tape stays", d.x.count(5), 20);
         due("PLAN and TABLE", d.x.count(6) + d.x.count(8), 0);
         String long160 = "h" + "1+".repeat(76) + "11(0=0)";
-        due("160 bytes", d.habit(long160), 1);
+        due("160 bytes", d.empty().habit(long160), 1);
         due("161 bytes", d.habit("h1" + long160.substring(1)), NONE);
+        due("the tape stays", d.x.count(5), 180);
+        due("a FAULT", d.x.habit(160), -1160);
+        due("the tape is empty after a FAULT", d.x.count(5), 0);
     }
 
     private static void table() {
@@ -357,12 +388,16 @@ public final class Promises {
         due("the TEXT before stays", d.x.count(8), 1);
         d.bytes('g');
         due("it has not so many", d.x.table(21), NONE);
-        due("the tape stays", d.x.count(5), 20);
+        due("n below 0", d.x.table(-1), NONE);
         due("n 0", d.x.table(0), NONE);
+        due("the tape stays", d.x.count(5), 20);
         due("PLAN and HABIT", d.x.count(6) + d.x.count(7), 0);
         String long160 = "g" + "1+".repeat(76) + "11(0=0)";
-        due("160 bytes", d.table(long160), 1);
+        due("160 bytes", d.empty().table(long160), 1);
         due("161 bytes", d.table("g1" + long160.substring(1)), NONE);
+        due("the tape stays", d.x.count(5), 180);
+        due("a FAULT", d.x.table(160), -1160);
+        due("the tape is empty after a FAULT", d.x.count(5), 0);
     }
 
     /** What a TEXT comes to, by THE PLAN over two BITS with BOOKS 3 and 5. */
@@ -1272,11 +1307,9 @@ public final class Promises {
         due("all are lacking", d.numbers(1).x.check(0, 0), 0);
         due("the tape is empty", d.x.count(5), 0);
         due("one too many", d.numbers(1, 2, 63, 0).x.check(0, 4), 3);
-        due("no such BIT", d.numbers(1).x.check(1, 1), -2);
-        due("BIT -1", d.numbers(1).x.check(-1, 1), -2);
-        d.bytes();
-        d.x.check(0, 0);
-        d.numbers(1, 2, 63);
+        due("no such BIT", d.numbers(1, 2, 63).x.check(1, 1), -2);
+        due("BIT -1", d.x.check(-1, 1), -2);
+        due("no such BIT, n 0", d.x.check(1, 0), -2);
         due("it has not so many", d.x.check(0, 6), -2);
         due("not so many of an int that wraps", d.x.check(0, 1 << 30), -2);
         due("n below 0", d.x.check(0, -1), -2);

@@ -14,6 +14,12 @@ final class Desk {
         return this;
     }
 
+    /** A TEXT of one byte is always a FAULT, which empties the tape. */
+    Desk empty() {
+        x.plan(1);
+        return this;
+    }
+
     Desk numbers(int... numbers) {
         int[] bytes = new int[4 * numbers.length];
         for (int i = 0; i < bytes.length; i++) bytes[i] = numbers[i / 4] >>> 24 - 8 * (i % 4) & 255;

@@ -89,8 +89,9 @@ final class Model {
     }
 
     boolean left(int k, int n) {
+        if (!isWork(k) || isLeft(k) || n < 1 || n > 40) return false;
         int[] t = take(2L * n);
-        if (t == null || !isWork(k) || isLeft(k) || n < 1 || n > 40) return false;
+        if (t == null) return false;
         int[] words = new int[n];
         int[] books = new int[n];
         for (int p = 0; p < n; p++) {
@@ -105,9 +106,10 @@ final class Model {
     }
 
     int bit(int writer, int work, int book, int subject, int n) {
-        int[] t = take(n);
-        if (t == null || !isWriter(writer) || work != -1 && !isWork(work)) return -1;
+        if (!isWriter(writer) || work != -1 && !isWork(work)) return -1;
         if (book < 0 || book > 40 || subject < 0 || subject > 9 || n < 1 || n > 8 || bits.size() == 40) return -1;
+        int[] t = take(n);
+        if (t == null) return -1;
         List<Integer> words = new ArrayList<>();
         for (int v : t) {
             if (v > 63) return -2;
@@ -120,8 +122,9 @@ final class Model {
     private interface Keep { void text(ModelText text); }
 
     private int read(int n, boolean known, String heads, Keep keep) {
+        if (!known || n < 1 || n > 160) return -1;
         int[] t = take(n);
-        if (t == null || !known || n < 1 || n > 160) return -1;
+        if (t == null) return -1;
         try {
             ModelText text = new ModelText(t, heads);
             keep.text(text);
@@ -664,8 +667,9 @@ final class Model {
     }
 
     int check(int i, int n) {
+        if (!isBit(i)) return -2;
         int[] t = take(4L * n);
-        if (t == null || !isBit(i)) return -2;
+        if (t == null) return -2;
         List<Integer> words = bits.get(i).words;
         for (int p = 0; p < n; p++) {
             int v = t[4 * p] << 24 | t[4 * p + 1] << 16 | t[4 * p + 2] << 8 | t[4 * p + 3];
