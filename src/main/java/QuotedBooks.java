@@ -1320,8 +1320,16 @@ public final class QuotedBooks {
             return marks;
         }
 
+        private static boolean isIn(long set, int place) {
+            return place >= 0 && place < WORK_WORDS && (set >>> place & 1) == 1;
+        }
+
+        private boolean has(int place) {
+            return isIn(places, place);
+        }
+
         boolean isAt(int place) {
-            return place >= 0 && place < WORK_WORDS && (marks >>> place & 1) == 1;
+            return isIn(marks, place);
         }
 
         int wordPut(int place) {
@@ -1346,11 +1354,18 @@ public final class QuotedBooks {
             }
             for (int p = 0; p < size; p++) {
                 int place = first + p;
-                places |= 1L << place;
-                if (shelf.bitWord(i, p) != shelf.workWord(k, place) && !isAt(place)) {
-                    marks |= 1L << place;
-                    put(wordsPut, place, shelf.bitWord(i, p));
+                if (!has(place)) {
+                    addPlace(place, shelf.bitWord(i, p), shelf.workWord(k, place));
                 }
+            }
+        }
+
+        /** Called by the first BIT that has the place alone: later ones neither add a SLIP there nor mend it. */
+        private void addPlace(int place, int word, int wordOfWork) {
+            places |= 1L << place;
+            if (word != wordOfWork) {
+                marks |= 1L << place;
+                put(wordsPut, place, word);
             }
         }
 

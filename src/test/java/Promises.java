@@ -720,14 +720,16 @@ public final class Promises {
         d.bit(0, 0, 0, 0, 40, 60);
         due("a BIT with a drop is not told", d.x.slips(0, 0, 2), 7);
         due("its SLIP", d.x.slips(0, 0, 3), 2);
-        d.bit(0, 0, 0, 0, 20, 31, 40);
+        d.bit(0, 0, 0, 0, 20, 31, 41);
         d.bit(1, 0, 0, 0, 60);
         d.bit(0, -1, 0, 0, 50, 60);
         d.bit(0, 1, 0, 0, 50, 60);
         due("how many", d.x.slips(0, 0, 0), 2);
         due("PLACES", d.x.slips(0, 0, 1), 4);
         due("PLACES as bits", d.x.slips(0, 0, 2), 15);
-        due("SLIPS as bits", d.x.slips(0, 0, 3), 6);
+        due("SLIPS as bits: none at 2, which the first BIT has as it is", d.x.slips(0, 0, 3), 10);
+        d.bit(0, 0, 0, 0, 20, 30, 40);
+        due("a later BIT mends none", d.x.slips(0, 0, 3), 10);
         due("the other's PLACES", d.x.slips(1, 0, 2), 32);
         due("what 4", d.x.slips(0, 0, 4), NONE);
         due("what -1", d.x.slips(0, 0, -1), NONE);
@@ -735,11 +737,17 @@ public final class Promises {
         due("no such WORK", d.x.slips(0, 2, 0), NONE);
         due("no such WRITER", d.x.slips(2, 0, 0), NONE);
 
-        // As long as the stretch, but a drop and an insertion are fewer than the WORDS that are other ones.
-        Desk e = Desk.with(1, 1);
+        Desk e = Desk.with(2, 1);
         e.left(0, 1, 2, 3, 4);
         e.bit(0, 0, 0, 0, 2, 1, 2, 3, 4);
-        due("not WORD by WORD", e.x.slips(0, 0, 1), 0);
+        due("not as long as the stretch", e.x.slips(0, 0, 1), 0);
+        // As long as the stretch, but a drop and an insertion are fewer than the WORDS that are other ones.
+        e.left(1, 1, 9, 2, 3, 4, 6);
+        e.bit(0, 1, 0, 0, 1, 2, 3, 4, 5, 6);
+        due("its stretch", e.x.near(1, 1, 2), 5);
+        due("not WORD by WORD", e.x.slips(0, 1, 1), 0);
+        e.bit(0, 1, 0, 0, 1, 9, 5);
+        due("what is not told has no place", e.x.slips(0, 1, 3), 4);
         Desk f = Desk.with(1, 1);
         int[] words = new int[40];
         for (int p = 0; p < 40; p++) words[p] = p;
@@ -752,10 +760,15 @@ public final class Promises {
     private static void slip() {
         promise = 21;
         Desk d = scribes(2);
-        d.bit(0, 0, 0, 0, 10, 20, 30);
         d.bit(0, 0, 0, 0, 10, 21, 30);
         d.bit(0, 0, 0, 0, 10, 22, 30);
-        due("the first SLIP at the place", d.x.slip(0, 0, 1), 21);
+        d.bit(0, 0, 0, 0, 10, 20, 30);
+        due("the first BIT of the place", d.x.slip(0, 0, 1), 21);
+        d.bit(0, 0, 0, 0, 40, 50);
+        d.bit(0, 0, 0, 0, 40, 51);
+        due("the first BIT has it as it is", d.x.slip(0, 0, 4), NONE);
+        d.bit(1, 0, 0, 0, 40, 51);
+        due("first of another WRITER", d.x.slip(1, 0, 4), 51);
         due("none there", d.x.slip(0, 0, 0), NONE);
         due("no PLACE of his", d.x.slip(0, 0, 5), NONE);
         due("no such place", d.x.slip(0, 0, 6), NONE);
@@ -806,6 +819,16 @@ public final class Promises {
         due("c", e.x.shared(0, 1, 0, 3), 20);
         due("above", e.x.shared(0, 1, 0, 4), 1);
         due("below", e.x.shared(0, 1, 0, 5), 137846528820L);
+
+        // The first BIT of a place counts: 1 has none at place 1, and 0's word at place 2 is the first one.
+        Desk f = scribes(2);
+        f.bit(1, 0, 0, 0, 20);
+        f.bit(1, 0, 0, 0, 10, 21, 31);
+        f.bit(0, 0, 0, 0, 10, 21, 31);
+        f.bit(0, 0, 0, 0, 10, 20, 30);
+        f.bit(0, 0, 0, 0, 20, 32, 40);
+        sharedIs(f, 0, 1, 3, 2, 1, 1, 2, 3);
+        sharedIs(f, 1, 0, 3, 1, 2, 1, 2, 3);
     }
 
     private static void groups() {
@@ -829,6 +852,12 @@ public final class Promises {
         d.bit(3, 1, 0, 0, 1, 3);
         due("by another WORK", d.x.groups(4, 500), 24);
         due("just not above", d.x.groups(4, 499), 16);
+
+        Desk e = scribes(2);
+        e.bit(0, 0, 0, 0, 11, 20, 30);
+        e.bit(1, 0, 0, 0, 10);
+        e.bit(1, 0, 0, 0, 11, 20, 30);
+        due("the first BIT has no SLIP at the place", e.x.groups(0, 1000), 1);
     }
 
     private static void from() {
@@ -869,6 +898,12 @@ public final class Promises {
         f.bit(0, 0, 0, 0, 11, 21, 31, 41, 51, 60);
         due("2 for the one at which he has none", f.x.from(1, 0, 1), 3);
         due("from 0", f.x.from(1, 0, 0), 0);
+        Desk g = scribes(2);
+        g.bit(0, 0, 0, 0, 11, 21, 31);
+        g.bit(1, 0, 0, 0, 20, 30);
+        g.bit(1, 0, 0, 0, 11, 21, 31);
+        due("of his places 1 and 2 the first BIT counts", g.x.from(1, 0, 0), NONE);
+        due("one SLIP is left him", g.x.from(1, 0, 1), 1);
     }
 
     private static void there() {
@@ -884,6 +919,11 @@ public final class Promises {
         due("not LEFT", d.x.there(1), NONE);
         due("no such WORK", d.x.there(2), NONE);
         due("WORK -1", d.x.there(-1), NONE);
+        Desk e = scribes(2);
+        e.bit(0, 0, 0, 0, 11, 21, 30);
+        e.bit(1, 0, 0, 0, 10, 20);
+        e.bit(1, 0, 0, 0, 11, 21, 30);
+        due("as his first BIT has it without a SLIP", e.x.there(0), 200);
     }
 
     private static void ahead() {

@@ -296,8 +296,8 @@ final class Model {
             for (int p = 0; p < there.size(); p++) if (!there.get(p).equals(b.words.get(p))) others++;
             if (others != n.far) continue;
             for (int p = 0; p < there.size(); p++) {
-                s.places.put(n.first + p, true);
-                if (!there.get(p).equals(b.words.get(p))) s.put.putIfAbsent(n.first + p, b.words.get(p));
+                boolean isFirst = s.places.put(n.first + p, true) == null;
+                if (isFirst && !there.get(p).equals(b.words.get(p))) s.put.put(n.first + p, b.words.get(p));
             }
         }
         return s;
