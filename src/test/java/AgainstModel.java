@@ -3,7 +3,8 @@ import java.util.Random;
 
 /** Long runs of calls by fixed seeds, each answer held against the Model, which is slow and plain. */
 public final class AgainstModel {
-    private static final int CALLS = 512;
+    /** Some are left for the counts at the end. */
+    private static final int CALLS = Twin.MOST_CALLS - 31;
     private static final String LETTERS = "wilbxykmcstznp";
 
     private final Random random;

@@ -16,15 +16,15 @@ public final class Extremes {
     public static void main(String[] args) {
         int wrong = 0;
         Map<String, Integer> face = new TreeMap<>(Twin.face());
-        for (int stage = 0; stage < 5; stage++) {
+        for (int round = 0; round < 10; round++) {
             for (String name : face.keySet()) {
                 Twin twin = new Twin();
-                fill(twin, stage);
-                tryAll(twin, name, face.get(name), new Random(stage));
+                fill(twin, round % 5);
+                tryAll(twin, name, face.get(name), new Random(round));
                 twin.countAll();
                 if (twin.failed()) {
                     wrong++;
-                    System.out.println(name + " at stage " + stage + ":");
+                    System.out.println(name + " at stage " + round % 5 + ":");
                     twin.print();
                 }
             }
@@ -34,7 +34,7 @@ public final class Extremes {
     }
 
     private static void tryAll(Twin twin, String name, int number, Random random) {
-        int turns = number == 1 ? EDGES.length : 600;
+        int turns = number == 1 ? EDGES.length : 300;
         for (int t = 0; t < turns; t++) {
             long[] arguments = new long[number];
             for (int a = 0; a < number; a++) {

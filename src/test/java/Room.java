@@ -19,7 +19,7 @@ public final class Room {
         long object = made() - start;
         Desk d = filled();
         start = made();
-        for (int turn = 0; turn < 20; turn++) askAll(d);
+        for (int turn = 0; turn < 13; turn++) askAll(d);
         long calls = made() - start - asking;
         System.out.println("an object takes " + object + " bytes, its calls " + calls);
         System.exit(object > 200000 || calls > 0 ? 1 : 0);

@@ -6,8 +6,12 @@ import java.util.HashMap;
 import java.util.List;
 import java.util.Map;
 
-/** A QuotedBooks and a Model that get the same calls, till the first answer that is not the same. */
+/**
+ * A QuotedBooks and a Model that get the same calls, till the first answer that is not the same. What a
+ * 513th call would answer is free: none is made.
+ */
 final class Twin {
+    static final int MOST_CALLS = 512;
     private static final Map<String, Method> OURS = methodsOf(QuotedBooks.class);
     private static final Map<String, Method> THEIRS = methodsOf(Model.class);
 
@@ -60,7 +64,7 @@ final class Twin {
 
     /** The answer that is due. */
     long call(String name, long... args) {
-        if (failed) return -1;
+        if (failed || calls >= MOST_CALLS) return -1;
         calls++;
         StringBuilder line = new StringBuilder(name).append("(");
         for (int i = 0; i < args.length; i++) line.append(i == 0 ? "" : ", ").append(args[i]);
