@@ -208,6 +208,14 @@ public final class EdgesOfBooks {
         s.due("then 0", f.x.sure(0, 1), 1);
         s.due("1 and 2 in either way", f.x.sure(1, 2), 0);
         s.due("1 and 2 in either way", f.x.sure(2, 1), 0);
+        Desk g = Desk.with(1, 1);
+        for (int i = 0; i < 5; i++) g.bit(0, 0, i + 1, 0, 1);
+        g.plan("p5(b=1&c=2);p3(b=4&c=3);p0-1(c=5)");
+        // 4 leads; behind it 0 1 and 3 2, in either way.
+        s.due("rows", g.x.orders(0), 2);
+        s.due("POINTS", g.x.order(0, NONE), 8);
+        int[][] ahead = {{0, 1, 0, 0, 0}, {0, 0, 0, 0, 0}, {0, 0, 0, 0, 0}, {0, 0, 1, 0, 0}, {1, 1, 1, 1, 0}};
+        for (int x = 0; x < 5; x++) for (int y = 0; y < 5; y++) if (x != y) s.due(x + " ahead of " + y, g.x.sure(x, y), ahead[x][y]);
     }
 
     private static void sure() {

@@ -439,6 +439,11 @@ public final class EdgesOfQuoting {
         d.left(2, 1);
         s.due("LEFT by now", d.x.nearness(7, 3), 5);
         s.due("greatest by now", d.x.nearness(7, 1), 1000);
+        Desk none = Desk.with(1, 1);
+        none.left(0, 1);
+        none.bit(0, 0, 0, 0, 2);
+        none.bit(0, 0, 0, 0, 3, 4);
+        for (int what = 0; what < 3; what++) s.due("nothing is near, what " + what, none.x.nearness(0, what), 0);
         Desk e = Desk.with(1, 1);
         e.left(0, 1);
         for (int i = 0; i < 40; i++) e.bit(0, 0, 0, 0, i == 39 ? 2 : 1);
@@ -512,6 +517,7 @@ public final class EdgesOfQuoting {
         Desk d = Desk.with(0, 1);
         stoodIs(d, new int[] {1, 2}, new int[] {1, 0, 2}, 1, 2);
         stoodIs(d, new int[] {7, 0}, new int[] {7, 3, 0}, 7, 0);
+        stoodIs(d, new int[] {5, 0}, new int[] {6, 5}, 5);
         stoodIs(d, new int[] {1}, new int[] {2});
         stoodIs(d, new int[] {1}, new int[] {1}, 1);
         stoodIs(d, new int[] {1, 2, 3, 4, 5, 6, 7, 8}, new int[] {1, 2, 3, 4, 5, 6, 7, 8}, 1, 2, 3, 4, 5, 6, 7, 8);

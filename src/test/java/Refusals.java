@@ -25,6 +25,8 @@ public final class Refusals {
 
     public static void main(String[] args) {
         asTheyAre();
+        nothingYet();
+        lastOfTheMost();
         authors();
         works();
         writers();
@@ -137,6 +139,107 @@ public final class Refusals {
         for (Stage stage : new Stage[] {NOTHING, EMPTY_TAPE, NUMBERS, PAIRS, NO_PAIRS, TEXT, FULL, FULL_NO_WORDS}) {
             s.due("the tape", stage.tape.applyAsLong(stage.make.get().x), stage.due);
         }
+    }
+
+    /** Each call on an object in which nothing was told: all of them are refused, or find nothing. */
+    private static void nothingYet() {
+        s.says("No AUTHORS, WORKS, WRITERS, BITS, TEXTS; THE SEED 1.");
+        refused(NOTHING, "work", x -> x.work(0, 1), NONE);
+        refused(NOTHING, "left", x -> x.left(0, 1) ? 1 : 0, 0);
+        refused(NOTHING, "bit", x -> x.bit(0, 0, 0, 0, 1), NONE);
+        refused(NOTHING, "bit of no WORK", x -> x.bit(0, NONE, 0, 0, 1), NONE);
+        refused(NOTHING, "way", x -> x.way(0, 1), NONE);
+        refused(NOTHING, "plan", x -> x.plan(1), NONE);
+        refused(NOTHING, "habit", x -> x.habit(1), NONE);
+        refused(NOTHING, "table", x -> x.table(1), NONE);
+        refused(NOTHING, "quote", x -> x.quote(0, 0, 0, 0, 0), NONE);
+        refused(NOTHING, "bitIs", x -> x.bitIs(0, 0), NONE);
+        refused(NOTHING, "apart", x -> x.apart(0, 0), NONE);
+        refused(NOTHING, "near", x -> x.near(0, 0, 0), NONE);
+        refused(NOTHING, "nearness", x -> x.nearness(0, 3), NONE);
+        refused(NOTHING, "same", x -> x.same(0, 0), -1);
+        refused(NOTHING, "stood", x -> x.stood(0, 0, NONE), NONE);
+        refused(NOTHING, "slips", x -> x.slips(0, 0, 0), -1);
+        refused(NOTHING, "slip", x -> x.slip(0, 0, 0), NONE);
+        refused(NOTHING, "shared", x -> x.shared(0, 1, 0, 0), -1);
+        refused(NOTHING, "groups", x -> x.groups(0, 0), NONE);
+        refused(NOTHING, "from", x -> x.from(0, 0, 0), -3);
+        refused(NOTHING, "there", x -> x.there(0), NONE);
+        refused(NOTHING, "ahead", x -> x.ahead(0, 1) ? 1 : 0, 0);
+        refused(NOTHING, "order", x -> x.order(0, NONE), NOT_TOLD);
+        refused(NOTHING, "orders", x -> x.orders(0), -1);
+        refused(NOTHING, "sure", x -> x.sure(0, 1), NONE);
+        refused(NOTHING, "truth", x -> x.truth(1, 1, 0), -1);
+        refused(NOTHING, "length", x -> x.length(0, 1, 0), -1);
+        refused(NOTHING, "span", x -> x.span(0, 1, 0), NONE);
+        refused(NOTHING, "nobody", x -> x.nobody(0, 1), -1);
+        refused(NOTHING, "whose", x -> x.whose(0, 0), NOT_TOLD);
+        refused(NOTHING, "men", x -> x.men(0, 0), NOT_TOLD);
+        refused(NOTHING, "gives", x -> x.gives(0, NONE, 0) ? 1 : 0, 0);
+        refused(NOTHING, "given", x -> x.given(0, 0), -2);
+        refused(NOTHING, "wrong", x -> x.wrong(0), 0);
+        refused(NOTHING, "moves", x -> x.moves(0), NOT_TOLD);
+        refused(NOTHING, "check", x -> x.check(0, 0), -2);
+        refused(NOTHING, "count of a WAY", x -> x.count(10), NONE);
+        refused(NOTHING, "count of a WORK", x -> x.count(20), NONE);
+    }
+
+    private static void full(String what, ToLongFunction<QuotedBooks> call, long want) {
+        refused(FULL, what, call, want);
+    }
+
+    /** With the most of each: the last of them is there, and the one behind it is not. */
+    private static void lastOfTheMost() {
+        s.says("WRITERS 0 to 7: a YEAR (0 to 999).");
+        full("bitIs(39, 10)", x -> x.bitIs(39, 10), 39);
+        full("bitIs(40, 10)", x -> x.bitIs(40, 10), NONE);
+        full("apart(39, 38)", x -> x.apart(39, 38), 1);
+        full("apart(39, 40)", x -> x.apart(39, 40), NONE);
+        full("near(39, 0, 0)", x -> x.near(39, 0, 0), 1);
+        full("near(40, 0, 0)", x -> x.near(40, 0, 0), NONE);
+        full("near(39, 8, 0)", x -> x.near(39, 8, 0), NONE);
+        full("nearness(7, 3)", x -> x.nearness(7, 3), 1);
+        full("nearness(8, 3)", x -> x.nearness(8, 3), NONE);
+        full("same(39, 0)", x -> x.same(39, 0), 1L << 39);
+        full("same(40, 0)", x -> x.same(40, 0), -1);
+        full("stood(39, 39, 0)", x -> x.stood(39, 39, 0), 39);
+        full("stood(39, 40, 0)", x -> x.stood(39, 40, 0), NONE);
+        full("slips(7, 0, 0)", x -> x.slips(7, 0, 0), 1);
+        full("slips(8, 0, 0)", x -> x.slips(8, 0, 0), -1);
+        full("slip(7, 0, 0)", x -> x.slip(7, 0, 0), 7);
+        full("slip(8, 0, 0)", x -> x.slip(8, 0, 0), NONE);
+        full("shared(6, 7, 0, 0)", x -> x.shared(6, 7, 0, 0), 1);
+        full("shared(7, 8, 0, 0)", x -> x.shared(7, 8, 0, 0), -1);
+        full("groups(7, 1000)", x -> x.groups(7, 1000), 128);
+        full("groups(8, 1000)", x -> x.groups(8, 1000), NONE);
+        full("from(7, 0, 1)", x -> x.from(7, 0, 1), 1);
+        full("from(8, 0, 1)", x -> x.from(8, 0, 1), -3);
+        full("order(7, 0)", x -> x.order(7, 0), 15);
+        full("order(8, 0)", x -> x.order(8, 0), NOT_TOLD);
+        full("orders(7)", x -> x.orders(7), 24);
+        full("orders(8)", x -> x.orders(8), -1);
+        full("sure(31, 39)", x -> x.sure(31, 39), 0);
+        full("sure(39, 40)", x -> x.sure(39, 40), NONE);
+        full("truth of BIT 39", x -> x.truth(1L << 39, 1, 1), 0);
+        full("truth of BIT 40", x -> x.truth(1L << 40, 1, 1), -1);
+        full("length(7, 40, 1)", x -> x.length(7, 40, 1), 9880);
+        full("length(8, 40, 1)", x -> x.length(8, 40, 1), -1);
+        full("span(7, 750, 1)", x -> x.span(7, 750, 1), 4);
+        full("span(8, 750, 1)", x -> x.span(8, 750, 1), NONE);
+        full("nobody(7, 5)", x -> x.nobody(7, 5), 18);
+        full("nobody(8, 5)", x -> x.nobody(8, 5), -1);
+        full("whose(39, 0)", x -> x.whose(39, 0), 0);
+        full("whose(40, 0)", x -> x.whose(40, 0), NOT_TOLD);
+        full("men(7, 1)", x -> x.men(7, 1), 10);
+        full("men(8, 1)", x -> x.men(8, 1), NOT_TOLD);
+        full("given(39, 438)", x -> x.given(39, 438), 7);
+        full("given(40, 438)", x -> x.given(40, 438), -2);
+        full("moves(39)", x -> x.moves(39), 0);
+        full("moves(40)", x -> x.moves(40), NOT_TOLD);
+        full("count(17)", x -> x.count(17), 0);
+        full("count(18)", x -> x.count(18), NONE);
+        full("count(27)", x -> x.count(27), 0);
+        full("count(28)", x -> x.count(28), NONE);
     }
 
     private static void authors() {
